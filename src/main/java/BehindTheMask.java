@@ -484,7 +484,7 @@ public final class BehindTheMask {
         if (from.isEmpty() || to.isEmpty()) {
             return NOTHING_THERE;
         }
-        if (!from.isRow() || !to.isRow() || from.sort() != to.sort()) {
+        if (!from.isRow() || from.sort() != to.sort()) {
             return OTHER_KIND;
         }
         if (!from.hasPart(i, n) || !to.hasPart(j, n)) {
