@@ -43,6 +43,17 @@ public final class RandomRunsTest {
         return in(from, to);
     }
 
+    /** Mostly a MASK that is there. */
+    private int aMask() {
+        return near(0, Math.max(0, y.count(1) - 1));
+    }
+
+    /** Mostly one of THE LIST or a stranger. */
+    private int anOne() {
+        int one = near(0, y.count(0));
+        return one == y.count(0) ? 6 : one;
+    }
+
     private void go() {
         int people = in(0, 6);
         int masks = in(0, 5);
@@ -93,7 +104,7 @@ public final class RandomRunsTest {
 
     private void hall() {
         int what = near(0, 12);
-        int number = what >= 9 ? near(0, 0) : near(0, 4);
+        int number = what >= 9 ? near(0, 0) : what >= 4 && what <= 7 ? aMask() : near(0, Math.max(2, y.count(0) - 1));
         switch (random.nextInt(12)) {
             case 0: {
                 int signs = 100 * near(0, 3) + 10 * near(0, 3) + near(0, 3);
@@ -124,7 +135,9 @@ public final class RandomRunsTest {
                 count();
                 break;
             default:
-                lawOf(random.nextInt(4));
+                if (random.nextInt(3) == 0) {
+                    lawOf(random.nextInt(4));
+                }
         }
     }
 
@@ -195,7 +208,7 @@ public final class RandomRunsTest {
     }
 
     private void thought() {
-        int mask = near(0, 4), one = near(0, 6), bit = near(0, 1), set = near(0, 127), m = near(0, 60);
+        int mask = aMask(), one = anOne(), bit = near(0, 1), set = near(0, 127), m = near(0, 60);
         switch (random.nextInt(11)) {
             case 0: {
                 int sx = 10 * near(0, 2) + near(0, 3);
@@ -210,7 +223,7 @@ public final class RandomRunsTest {
                         x.likely(mask, one, bit), y.likely(mask, one, bit));
                 break;
             case 3:
-                mask = near(-1, 4);
+                mask = near(-1, Math.max(0, y.count(1) - 1));
                 Due.is(run + "best(" + mask + ")", x.best(mask), y.best(mask));
                 break;
             case 4:
@@ -247,12 +260,12 @@ public final class RandomRunsTest {
 
     /** A ROW of bytes for shelf 0 to 2: TRUTHS, CARDS, dances. */
     private void bytes(int shelf) {
-        int n = shelf == 2 ? in(0, 24) : in(0, 6);
+        int n = shelf == 2 ? in(0, 24) : random.nextInt(4) == 0 ? in(0, 6) : y.count(1);
         Due.is(run + "row(" + shelf + ", 0, " + n + ")", x.row(shelf, 0, n), y.row(shelf, 0, n));
-        int turn = in(0, 6);
+        int people = y.count(0), turn = in(0, 6);
         for (int i = 0; i < n; i++) {
-            int v = shelf == 0 ? (turn + i) % 7 : shelf == 1 ? near(-1, 6) : near(0, 4);
-            if (shelf == 0 && random.nextInt(4) == 0) {
+            int v = shelf == 0 ? (turn + i) % Math.max(1, people) : shelf == 1 ? near(-1, 6) : aMask();
+            if (shelf == 0 && (i >= people || random.nextInt(20) == 0)) {
                 v = 6;
             }
             Due.is(run + "put(" + shelf + ", " + i + ", " + v + ")", x.put(shelf, i, v), y.put(shelf, i, v));
@@ -260,7 +273,7 @@ public final class RandomRunsTest {
     }
 
     private void truth() {
-        int shelf = near(0, 2), one = near(0, 5), bit = near(0, 1);
+        int shelf = near(0, 2), one = near(0, Math.max(0, y.count(0) - 1)), bit = near(0, 1);
         switch (random.nextInt(12)) {
             case 0: case 1:
                 bytes(in(0, 2));
@@ -270,6 +283,7 @@ public final class RandomRunsTest {
                 Due.is(run + "truth(" + shelf + ", " + bit + ")", x.truth(shelf, bit), y.truth(shelf, bit));
                 break;
             case 4:
+                shelf = random.nextInt(4) > 0 ? 0 : shelf;
                 Due.is(run + "feign(" + shelf + ", " + one + ", " + bit + ")",
                         x.feign(shelf, one, bit), y.feign(shelf, one, bit));
                 break;
@@ -291,18 +305,20 @@ public final class RandomRunsTest {
                 break;
             }
             case 9: {
-                int n = near(1, 9);
+                int n = near(1, random.nextBoolean() ? 2 : 9);
+                shelf = random.nextBoolean() ? 2 : shelf;
                 Due.is(run + "avoid(" + shelf + ", " + n + ")", x.avoid(shelf, n), y.avoid(shelf, n));
                 break;
             }
             case 10: {
-                int mask = near(0, 4);
+                int mask = aMask();
+                shelf = random.nextBoolean() ? 2 : shelf;
                 Due.is(run + "favourite(" + shelf + ", " + mask + ")",
                         x.favourite(shelf, mask), y.favourite(shelf, mask));
                 break;
             }
             default: {
-                int seed = random.nextInt(), nm = 1000 * near(1, 30) + near(0, 60), mask = near(0, 4);
+                int seed = random.nextInt(), nm = 1000 * near(1, 30) + near(0, 60), mask = aMask();
                 Due.is(run + "drawn(" + seed + ", " + nm + ", " + bit + ", " + mask + ")",
                         x.drawn(seed, nm, bit, mask), y.drawn(seed, nm, bit, mask));
             }
@@ -310,7 +326,7 @@ public final class RandomRunsTest {
     }
 
     private void deed() {
-        int mask = near(0, 4), one = near(0, 6);
+        int mask = aMask(), one = anOne();
         switch (random.nextInt(12)) {
             case 0: case 1:
                 Due.is(run + "behind(" + mask + ", " + one + ")", x.behind(mask, one), y.behind(mask, one));
