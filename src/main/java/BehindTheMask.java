@@ -469,11 +469,7 @@ public final class BehindTheMask {
     }
 
     public long element(int shelf, int i) {
-        int fault = cellFault(shelf, i);
-        if (fault == BAD) {
-            return Long.MIN_VALUE;
-        }
-        return fault != ALL_RIGHT ? fault : shelves[shelf].at(i);
+        return cellFault(shelf, i) == ALL_RIGHT ? shelves[shelf].at(i) : Long.MIN_VALUE;
     }
 
     public int shift(int shelf, int i, int other, int j, int n) {
@@ -726,10 +722,12 @@ public final class BehindTheMask {
                 forgetFirst(after);
                 done = MOST_KEPT - 1;
             }
-            changed[done] = place;
-            before[done] = was;
-            after[done] = v;
-            done++;
+            if (done >= 0 && done < MOST_KEPT) {
+                changed[done] = place;
+                before[done] = was;
+                after[done] = v;
+                done++;
+            }
         }
 
         private static void forgetFirst(int[] kept) {

@@ -1199,8 +1199,7 @@ final class Model {
     }
 
     long element(int shelf, int i) {
-        int fault = cellFault(shelf, i);
-        return fault == BAD ? Long.MIN_VALUE : fault != 0 ? fault : ((Row) shelves[shelf]).cells[i];
+        return cellFault(shelf, i) != 0 ? Long.MIN_VALUE : ((Row) shelves[shelf]).cells[i];
     }
 
     int shift(int shelf, int i, int other, int j, int n) {

@@ -143,7 +143,8 @@ public final class PromisesTest {
             Due.is("1: known", x.of(sign, 8), 0);
         }
         for (int shelf = 0; shelf < 6; shelf++) {
-            Due.is("1: shelf", x.element(shelf, 0), -11);
+            Due.is("1: shelf", x.element(shelf, 0), LEAST);
+            Due.is("1: nothing is there", x.put(shelf, 0, 1), -11);
         }
     }
 
@@ -1133,7 +1134,7 @@ public final class PromisesTest {
         Due.is("41: nothing is there", x.taken(5, 0), -11);
         x.row(0, 0, 3);
         x.keep(0, 1);
-        Due.is("41: no row any more", x.element(0, 0), -12);
+        Due.is("41: no row any more", x.put(0, 0, 1), -12);
         Due.is("41: shelf", x.keep(6, 0), BAD);
         Due.is("41: shelf", x.keep(-1, -1), BAD);
         Due.is("41: body", x.keep(0, 8), BAD);
@@ -1151,7 +1152,7 @@ public final class PromisesTest {
         Due.is("42: new again", x.row(0, 0, 60), 1);
         Due.is("42: 0 again", x.element(0, 59), 0);
         Due.is("42: empty", x.row(0, 0, 0), 1);
-        Due.is("42: no place", x.element(0, 0), -13);
+        Due.is("42: no place", x.put(0, 0, 1), -13);
         Due.is("42: size", x.row(0, 0, -1), -14);
         Due.is("42: too long", x.row(0, 0, 61), BAD);
         Due.is("42: sort", x.row(0, 5, 1), BAD);
@@ -1189,11 +1190,15 @@ public final class PromisesTest {
         x.row(0, 3, 2);
         x.put(0, 1, -77);
         Due.is("44: element", x.element(0, 1), -77);
-        Due.is("44: place", x.element(0, 2), -13);
-        Due.is("44: place", x.element(0, -1), -13);
-        Due.is("44: nothing", x.element(1, 0), -11);
+        for (int v = -14; v <= -1; v++) {
+            x.put(0, 0, v);
+            Due.is("44: no refusal, but what is there", x.element(0, 0), v);
+        }
+        Due.is("44: place", x.element(0, 2), LEAST);
+        Due.is("44: place", x.element(0, -1), LEAST);
+        Due.is("44: nothing", x.element(1, 0), LEAST);
         x.keep(1, 0);
-        Due.is("44: a body", x.element(1, 0), -12);
+        Due.is("44: a body", x.element(1, 0), LEAST);
         Due.is("44: shelf", x.element(6, 0), LEAST);
         Due.is("44: shelf", x.element(-1, 0), LEAST);
     }
