@@ -1,7 +1,8 @@
 /** For each promise of the document: ordinary inputs, the edges it names, and wrong inputs. */
 public final class PromisesTest {
-    private static final long LEAST = Long.MIN_VALUE;
-    private static final int BAD = -1, NOT = -2, FULL = -3, STATE = -5, VOID = -2000000000;
+    private static final long LEAST = Scene.LEAST;
+    private static final int BAD = Scene.BAD, NOT = Scene.NOT, FULL = Scene.FULL;
+    private static final int STATE = Scene.STATE, VOID = Scene.VOID;
 
     private PromisesTest() {
     }
@@ -82,41 +83,6 @@ public final class PromisesTest {
 
     // ---- what the promises share
 
-    /** THE LIST by signs, so many MASKS, and STRANGERS. */
-    private static BehindTheMask hall(int masks, int strangers, int... signs) {
-        BehindTheMask x = new BehindTheMask();
-        for (int each : signs) {
-            x.person(each);
-        }
-        for (int i = 0; i < masks; i++) {
-            x.mask();
-        }
-        x.mend(0, 9, strangers);
-        return x;
-    }
-
-    private static void bytes(BehindTheMask x, int shelf, int... values) {
-        x.row(shelf, 0, values.length);
-        for (int i = 0; i < values.length; i++) {
-            x.put(shelf, i, values[i]);
-        }
-    }
-
-    private static int lawOf(BehindTheMask x, String text) {
-        for (int i = 0; i < text.length(); i++) {
-            x.feed(text.charAt(i));
-        }
-        return x.law();
-    }
-
-    private static BehindTheMask kinds() {
-        BehindTheMask x = new BehindTheMask();
-        for (int kind = 0; kind < 8; kind++) {
-            x.body(kind);
-        }
-        return x;
-    }
-
     private static void trace(BehindTheMask x, String what, int... bodies) {
         Due.is(what + ": how many", x.count(5), bodies.length);
         for (int i = 0; i < bodies.length; i++) {
@@ -169,7 +135,7 @@ public final class PromisesTest {
 
     private static void p3() {
         BehindTheMask x = new BehindTheMask();
-        bytes(x, 0, 9, 1, 2, 3, 0, 0, 0, 3, 3, 3, 1, 1);
+        Scene.bytes(x, 0, 9, 1, 2, 3, 0, 0, 0, 3, 3, 3, 1, 1);
         Due.is("3: missing", x.people(1, 0, 1), 0);
         Due.is("3: missing, below 0", x.people(1, -5, 1), 0);
         Due.is("3: below 0", x.people(0, -1, 6), 0);
@@ -195,7 +161,7 @@ public final class PromisesTest {
         x.keep(3, 0);
         Due.is("3: a body", x.people(3, 0, 1), -12);
         BehindTheMask y = new BehindTheMask();
-        bytes(y, 0, 1, 1, 1, -1, 0, 0);
+        Scene.bytes(y, 0, 1, 1, 1, -1, 0, 0);
         Due.is("3: below 0 within", y.people(0, 0, 2), 1);
     }
 
@@ -212,7 +178,7 @@ public final class PromisesTest {
     }
 
     private static void p5() {
-        BehindTheMask x = hall(1, 0, 12);
+        BehindTheMask x = Scene.hall(1, 0, 12);
         int[] least = {0, 0, 0, 0, -1, -1, -1, 0, 0, 0, 0, 0, 1};
         int[] most = {3, 3, 3, 9, 3, 3, 3, 127, 9, 2, 9, 99, 30};
         for (int what = 0; what <= 12; what++) {
@@ -231,7 +197,7 @@ public final class PromisesTest {
     }
 
     private static void p6() {
-        BehindTheMask x = hall(2, 1, 12, 3);
+        BehindTheMask x = Scene.hall(2, 1, 12, 3);
         x.mend(1, 8, 7);
         Due.is("6: sign", x.of(1, 2), 3);
         Due.is("6: known", x.of(1, 8), 7);
@@ -268,10 +234,10 @@ public final class PromisesTest {
     }
 
     private static void gives(String text, int value) {
-        BehindTheMask x = hall(0, 0, 321);
+        BehindTheMask x = Scene.hall(0, 0, 321);
         x.mend(0, 3, 5);
         x.mend(1, 8, 6);
-        Due.is("8: law " + text, lawOf(x, text), 1);
+        Due.is("8: law " + text, Scene.lawOf(x, text), 1);
         Due.is("8: counts by " + text, x.counts(0, 13), value);
     }
 
@@ -324,9 +290,9 @@ public final class PromisesTest {
     }
 
     private static void faults(String text, int place) {
-        BehindTheMask x = hall(0, 0, 321);
-        lawOf(x, "7");
-        Due.is("8: law " + text, lawOf(x, text), -100 - place);
+        BehindTheMask x = Scene.hall(0, 0, 321);
+        Scene.lawOf(x, "7");
+        Due.is("8: law " + text, Scene.lawOf(x, text), -100 - place);
         Due.is("8: the tape is empty behind " + text, x.count(2), 0);
         Due.is("8: the law stays behind " + text, x.counts(0, 13), 7);
     }
@@ -383,7 +349,7 @@ public final class PromisesTest {
     }
 
     private static void p9() {
-        BehindTheMask x = hall(0, 0, 12);
+        BehindTheMask x = Scene.hall(0, 0, 12);
         x.mend(0, 3, 4);
         Due.is("9: as it is", x.counts(0, 0), 9);
         Due.is("9: feigned", x.counts(0, 1), 4);
@@ -392,7 +358,7 @@ public final class PromisesTest {
         Due.is("9: stranger", x.counts(6, 22), 3);
         x.mend(0, 10, 7);
         Due.is("9: even", x.counts(6, 0), 7);
-        lawOf(x, "1");
+        Scene.lawOf(x, "1");
         Due.is("9: no law for strangers", x.counts(6, 0), 7);
         Due.is("9: by law", x.counts(0, 0), 1);
         for (int sx : new int[] {-1, 4, 9, 14, 24, 30, Integer.MIN_VALUE, Integer.MAX_VALUE}) {
@@ -406,7 +372,7 @@ public final class PromisesTest {
     // ---- ways in thought
 
     private static void p10() {
-        BehindTheMask x = hall(0, 2, 0, 111);
+        BehindTheMask x = Scene.hall(0, 2, 0, 111);
         Due.is("10: without masks", x.ways(0), 1);
         Due.is("10: it counts", x.ways(1), 1);
         x.mask();
@@ -432,7 +398,7 @@ public final class PromisesTest {
 
     /** 720 ways without a stranger, 1800 with one, 1200 with two, each of 9 to 15. */
     private static void p10Greatest() {
-        BehindTheMask x = hall(5, 2, 0, 0, 0, 0, 0, 0);
+        BehindTheMask x = Scene.hall(5, 2, 0, 0, 0, 0, 0, 0);
         Due.is("10: all", x.ways(0), 3720);
         x.mend(0, 10, 9);
         for (int mask = 0; mask < 5; mask++) {
@@ -450,13 +416,13 @@ public final class PromisesTest {
         Due.is("17: who", x.guess(0, 0, 0), 6);
         Due.is("17: worth of it", x.likely(0, 6, 0) * 2000 / x.likely(0, 6, 1), 451);
         Due.is("17: together", x.guess(0, 0, 2), 5 * 451);
-        bytes(x, 0, 0, 1, 2, 3, 4);
+        Scene.bytes(x, 0, 0, 1, 2, 3, 4);
         Due.is("20: millionths", x.truth(0, 1), 268);
         Due.is("22: all alike", x.change(0), NOT);
     }
 
     private static void p11() {
-        BehindTheMask x = hall(1, 1, 0, 111);
+        BehindTheMask x = Scene.hall(1, 1, 0, 111);
         x.mend(0, 4, 0);
         Due.is("11: above", x.likely(0, 0, 0), 9);
         Due.is("11: below", x.likely(0, 0, 1), 14);
@@ -479,7 +445,7 @@ public final class PromisesTest {
     }
 
     private static void p12() {
-        BehindTheMask x = hall(2, 0, 0, 100);
+        BehindTheMask x = Scene.hall(2, 0, 0, 100);
         Due.is("12: first of like ones", x.best(0), 0);
         Due.is("12: and the other", x.best(1), 1);
         Due.is("12: counts", x.best(-1), 1);
@@ -500,7 +466,7 @@ public final class PromisesTest {
     }
 
     private static void p13() {
-        BehindTheMask x = hall(2, 0, 0, 111, 222);
+        BehindTheMask x = Scene.hall(2, 0, 0, 111, 222);
         Due.is("13: nobody sure", x.sure(0), 0);
         Due.is("13: strangers out", x.sure(1), 64);
         x.mend(1, 7, 2);
@@ -521,8 +487,8 @@ public final class PromisesTest {
     }
 
     private static void p14() {
-        BehindTheMask x = hall(2, 0, 0, 10, 23);
-        lawOf(x, "d");
+        BehindTheMask x = Scene.hall(2, 0, 0, 10, 23);
+        Scene.lawOf(x, "d");
         Due.is("14: gait of none, hand of some, voice", x.look(0), 1);
         Due.is("14: the greatest", x.look(1), 2);
         x.mend(0, 5, 1);
@@ -543,7 +509,7 @@ public final class PromisesTest {
     }
 
     private static void p15() {
-        BehindTheMask x = hall(2, 1, 0, 111, 222);
+        BehindTheMask x = Scene.hall(2, 1, 0, 111, 222);
         Due.is("15: all", x.question(0, 127, 1), 12);
         Due.is("15: nobody knows", x.question(0, 0, 1), 0);
         Due.is("15: nobody knows, if not", x.question(0, 0, 0), 12);
@@ -562,7 +528,7 @@ public final class PromisesTest {
     }
 
     private static void p16() {
-        BehindTheMask x = hall(2, 0, 0, 111, 222, 333);
+        BehindTheMask x = Scene.hall(2, 0, 0, 111, 222, 333);
         Due.is("16: like ones", x.whom(3), 0);
         x.mend(0, 7, 1 + 4);
         Due.is("16: 3 and 3, or 2 and 4", x.whom(3), 0);
@@ -576,7 +542,7 @@ public final class PromisesTest {
     }
 
     private static void p17() {
-        BehindTheMask x = hall(2, 1, 0, 111);
+        BehindTheMask x = Scene.hall(2, 1, 0, 111);
         x.mend(0, 4, 1);
         Due.is("17: 9 times 2, 2 times 2, 3 times 2", x.ways(1), 28);
         Due.is("17: who", x.guess(0, 0, 0), 1);
@@ -597,12 +563,12 @@ public final class PromisesTest {
         Due.is("17: what", x.guess(0, 0, 3), BAD);
         Due.is("17: what", x.guess(0, 0, -1), BAD);
         Due.is("17: mask", x.guess(2, 0, 1), BAD);
-        Due.is("17: no list", hall(1, 0).guess(0, 0, 0), 6);
-        Due.is("17: no masks", hall(0, 0).guess(0, 0, 2), 0);
+        Due.is("17: no list", Scene.hall(1, 0).guess(0, 0, 0), 6);
+        Due.is("17: no masks", Scene.hall(0, 0).guess(0, 0, 2), 0);
     }
 
     private static void p18() {
-        BehindTheMask x = hall(1, 1, 0, 111);
+        BehindTheMask x = Scene.hall(1, 1, 0, 111);
         Due.is("18: 333 of it", x.lacks(0, 29), 333);
         x.mend(0, 4, 0);
         Due.is("18: 642 of it", x.lacks(0, 0), 358);
@@ -643,31 +609,31 @@ public final class PromisesTest {
 
     /** What holds for every call with a ROW of bytes on a SHELF. */
     private static void p20() {
-        BehindTheMask x = hall(2, 1, 0, 111, 222);
+        BehindTheMask x = Scene.hall(2, 1, 0, 111, 222);
         x.mend(0, 4, 0);
         x.mend(1, 4, 1);
-        bytes(x, 0, 0, 1);
+        Scene.bytes(x, 0, 0, 1);
         Due.is("20: counts", x.truth(0, 0), 81);
         Due.is("20: all", x.ways(1), 81 + 18 + 4 + 4 + 18 + 4 + 27 + 6 + 6 + 27 + 6 + 6);
         Due.is("20: found out", x.truth(0, 1), 81L * 1000000 / 207);
-        bytes(x, 0, 0);
+        Scene.bytes(x, 0, 0);
         Due.is("20: too short", x.truth(0, 0), NOT);
         Due.is("20: too short", x.truth(0, 1), NOT);
-        bytes(x, 0, 2, 2);
+        Scene.bytes(x, 0, 2, 2);
         Due.is("20: alike", x.truth(0, 0), NOT);
-        bytes(x, 0, 3, 1);
+        Scene.bytes(x, 0, 3, 1);
         Due.is("20: not there", x.truth(0, 0), NOT);
-        bytes(x, 0, 7, 1);
+        Scene.bytes(x, 0, 7, 1);
         Due.is("20: nobody", x.truth(0, 0), NOT);
-        bytes(x, 0, -1, 1);
+        Scene.bytes(x, 0, -1, 1);
         Due.is("20: below 0", x.truth(0, 0), NOT);
-        bytes(x, 0, 6, 1, 1, 99);
+        Scene.bytes(x, 0, 6, 1, 1, 99);
         Due.is("20: beyond the masks", x.truth(0, 0), 27);
-        bytes(x, 0, 6, 6);
+        Scene.bytes(x, 0, 6, 6);
         Due.is("20: more strangers than there may be", x.truth(0, 1), 0);
         x.mend(0, 9, 2);
         Due.is("20: as many as there may be", x.truth(0, 0), 9);
-        bytes(x, 0, 0, 1);
+        Scene.bytes(x, 0, 0, 1);
         x.mend(0, 7, 126);
         Due.is("20: not as may has it", x.truth(0, 1), 0);
         x.mend(0, 7, 0);
@@ -683,8 +649,8 @@ public final class PromisesTest {
     }
 
     private static void p21() {
-        BehindTheMask x = hall(1, 1, 0, 111);
-        bytes(x, 0, 0);
+        BehindTheMask x = Scene.hall(1, 1, 0, 111);
+        Scene.bytes(x, 0, 0);
         x.mend(0, 4, 0);
         Due.is("21: 642 now", x.likely(0, 0, 0) * 1000 / x.likely(0, 0, 1), 642);
         Due.is("21: gait as the other's", x.feign(0, 0, 0), 1);
@@ -708,23 +674,23 @@ public final class PromisesTest {
         Due.is("21: nothing", x.feign(1, 0, 0), -11);
         x.row(1, 3, 1);
         Due.is("21: longs", x.feign(1, 0, 0), -12);
-        bytes(x, 1, 2);
+        Scene.bytes(x, 1, 2);
         Due.is("21: no truth", x.feign(1, 0, 0), NOT);
     }
 
     private static void p22() {
-        BehindTheMask x = hall(3, 0, 0, 111, 222);
+        BehindTheMask x = Scene.hall(3, 0, 0, 111, 222);
         for (int mask = 0; mask < 3; mask++) {
             x.mend(mask, 4, mask);
         }
-        bytes(x, 0, 0, 1, 2);
+        Scene.bytes(x, 0, 0, 1, 2);
         Due.is("22: they are as before", x.change(0), NOT);
         x.mend(2, 7, 7 - 2);
         Due.is("22: 1 may not be behind 2", x.change(0), 12);
         x.mend(1, 7, 7 - 1);
         Due.is("22: nor 0 behind 1", x.change(0), 1);
         Due.is("22: seen stays", x.of(1, 4), 1);
-        bytes(x, 0, 0, 1);
+        Scene.bytes(x, 0, 0, 1);
         Due.is("22: no truth", x.change(0), NOT);
         Due.is("22: nothing", x.change(1), -11);
         x.row(1, 4, 3);
@@ -734,13 +700,13 @@ public final class PromisesTest {
     }
 
     private static void p23() {
-        BehindTheMask x = hall(3, 0, 0, 111, 222);
-        bytes(x, 0, 0, 1, 6);
-        bytes(x, 1, 0, 2, 6, 5);
+        BehindTheMask x = Scene.hall(3, 0, 0, 111, 222);
+        Scene.bytes(x, 0, 0, 1, 6);
+        Scene.bytes(x, 1, 0, 2, 6, 5);
         Due.is("23: two", x.right(10), 2);
-        bytes(x, 1, -1, 1);
+        Scene.bytes(x, 1, -1, 1);
         Due.is("23: as far as it goes", x.right(10), 1);
-        bytes(x, 1);
+        Scene.bytes(x, 1);
         Due.is("23: none told", x.right(10), 0);
         Due.is("23: no truth", x.right(1), NOT);
         Due.is("23: nothing for cards", x.right(20), -11);
@@ -755,25 +721,25 @@ public final class PromisesTest {
     }
 
     private static void p24() {
-        BehindTheMask x = hall(3, 0, 0, 111, 222);
-        bytes(x, 0, 0, 0, 2);
+        BehindTheMask x = Scene.hall(3, 0, 0, 111, 222);
+        Scene.bytes(x, 0, 0, 0, 2);
         Due.is("24: one is behind one mask", x.cards(0, 0), 2);
         Due.is("24: each may be right", x.cards(0, 1), NOT);
-        bytes(x, 0, -1, 6, 1);
+        Scene.bytes(x, 0, -1, 6, 1);
         Due.is("24: no stranger", x.cards(0, 0), 1);
         Due.is("24: a stranger is wrong", x.cards(0, 1), 1);
-        bytes(x, 0, 0, 1, 7);
+        Scene.bytes(x, 0, 0, 1, 7);
         Due.is("24: nobody is 7", x.cards(0, 1), 2);
         Due.is("24: two", x.cards(0, 0), 2);
-        bytes(x, 0, 0, -2, 3);
+        Scene.bytes(x, 0, 0, -2, 3);
         Due.is("24: nobody is -2", x.cards(0, 1), 1);
-        bytes(x, 0, 0, 1, 2, 9);
+        Scene.bytes(x, 0, 0, 1, 2, 9);
         Due.is("24: beyond the masks", x.cards(0, 1), NOT);
         Due.is("24: three", x.cards(0, 0), 3);
         x.mend(1, 7, 0);
         Due.is("24: none possible", x.cards(0, 0), 0);
         Due.is("24: each is wrong", x.cards(0, 1), 0);
-        bytes(x, 0, -1, -1);
+        Scene.bytes(x, 0, -1, -1);
         Due.is("24: no guess is none wrong", x.cards(0, 1), NOT);
         Due.is("24: nothing", x.cards(1, 0), -11);
         x.row(1, 2, 1);
@@ -783,8 +749,8 @@ public final class PromisesTest {
     }
 
     private static void p25() {
-        BehindTheMask x = hall(3, 0);
-        bytes(x, 0, 0, 1, 1, 2, 2, 0, 1);
+        BehindTheMask x = Scene.hall(3, 0);
+        Scene.bytes(x, 0, 0, 1, 1, 2, 2, 0, 1);
         Due.is("25: what lacks", x.dances(0, 999), 3);
         Due.is("25: none ended", x.dances(0, 2), 0);
         Due.is("25: one ended", x.dances(0, 3), 1);
@@ -794,11 +760,11 @@ public final class PromisesTest {
         Due.is("25: longer", x.dances(0, 90), 3);
         x.mend(0, 12, 1);
         Due.is("25: shorter", x.dances(0, 2), 2);
-        bytes(x, 0, 0, 1, 2, 2, 0, 1);
+        Scene.bytes(x, 0, 0, 1, 2, 2, 0, 1);
         Due.is("25: alike", x.dances(0, 999), 1);
-        bytes(x, 0, 0, 1, 0, 3, 0, 1);
+        Scene.bytes(x, 0, 0, 1, 0, 3, 0, 1);
         Due.is("25: no mask", x.dances(0, 999), 1);
-        bytes(x, 0, 0, 1, -1, 0, 0, 1);
+        Scene.bytes(x, 0, 0, 1, -1, 0, 0, 1);
         Due.is("25: below 0", x.dances(0, 999), 1);
         Due.is("25: m", x.dances(0, 1000), BAD);
         Due.is("25: m", x.dances(0, -1), BAD);
@@ -809,16 +775,16 @@ public final class PromisesTest {
     }
 
     private static void p26() {
-        BehindTheMask x = hall(4, 0);
-        bytes(x, 0, 0, 1, 2, 3, 0, 1, 1, 2);
+        BehindTheMask x = Scene.hall(4, 0);
+        Scene.bytes(x, 0, 0, 1, 2, 3, 0, 1, 1, 2);
         Due.is("26: 0 and 2", x.avoid(0, 1), 2);
         Due.is("26: 3 danced once", x.avoid(0, 2), 2);
         Due.is("26: nobody so often", x.avoid(0, 3), NOT);
-        bytes(x, 0, 1, 3, 0, 2);
+        Scene.bytes(x, 0, 1, 3, 0, 2);
         Due.is("26: the first two", x.avoid(0, 1), 1);
-        bytes(x, 0, 1, 2, 2, 3, 3, 1);
+        Scene.bytes(x, 0, 1, 2, 2, 3, 3, 1);
         Due.is("26: who dances not at all", x.avoid(0, 1), NOT);
-        bytes(x, 0, 2, 3, 3, 1);
+        Scene.bytes(x, 0, 2, 3, 3, 1);
         Due.is("26: the lesser first", x.avoid(0, 1), 12);
         Due.is("26: n", x.avoid(0, 0), BAD);
         Due.is("26: n", x.avoid(0, 10), BAD);
@@ -829,12 +795,12 @@ public final class PromisesTest {
     }
 
     private static void p27() {
-        BehindTheMask x = hall(4, 0);
-        bytes(x, 0, 0, 2, 1, 0, 2, 0, 0, 1);
+        BehindTheMask x = Scene.hall(4, 0);
+        Scene.bytes(x, 0, 0, 2, 1, 0, 2, 0, 0, 1);
         Due.is("27: like ones", x.favourite(0, 0), 1);
         Due.is("27: the one", x.favourite(0, 2), 0);
         Due.is("27: nobody", x.favourite(0, 3), NOT);
-        bytes(x, 0, 0, 2, 1, 0, 2, 0);
+        Scene.bytes(x, 0, 0, 2, 1, 0, 2, 0);
         Due.is("27: most", x.favourite(0, 0), 2);
         Due.is("27: mask", x.favourite(0, 4), BAD);
         Due.is("27: mask", x.favourite(0, -1), BAD);
@@ -845,7 +811,7 @@ public final class PromisesTest {
     }
 
     private static void p28() {
-        BehindTheMask x = hall(2, 0, 0, 111);
+        BehindTheMask x = Scene.hall(2, 0, 0, 111);
         int z = 5;
         int zeros = 0;
         for (int i = 0; i < 30; i++) {
@@ -870,13 +836,13 @@ public final class PromisesTest {
         Due.is("28: what", x.drawn(5, 1000, 2, 0), BAD);
         Due.is("28: what", x.drawn(5, 1000, -1, 0), BAD);
         Due.is("28: mask", x.drawn(5, 1000, 1, 3), BAD);
-        Due.is("28: no masks", hall(0, 0, 0).drawn(5, 1000, 0, 0), 0);
+        Due.is("28: no masks", Scene.hall(0, 0, 0).drawn(5, 1000, 0, 0), 0);
     }
 
     // ---- in deed
 
     private static void p29() {
-        BehindTheMask x = hall(3, 0, 0, 111);
+        BehindTheMask x = Scene.hall(3, 0, 0, 111);
         Due.is("29: nobody was", x.behind(0, 1), NOT);
         Due.is("29: the same", x.behind(0, 1), 1);
         Due.is("29: behind another one", x.behind(1, 1), STATE);
@@ -892,7 +858,7 @@ public final class PromisesTest {
     }
 
     private static void p30() {
-        BehindTheMask x = hall(2, 0, 120);
+        BehindTheMask x = Scene.hall(2, 0, 120);
         Due.is("30: nobody", x.dance(0), STATE);
         x.behind(0, 0);
         x.mend(0, 5, 3);
@@ -920,7 +886,7 @@ public final class PromisesTest {
     }
 
     private static void p31() {
-        BehindTheMask x = hall(3, 0, 0, 111);
+        BehindTheMask x = Scene.hall(3, 0, 0, 111);
         x.behind(0, 0);
         Due.is("31: nobody behind the other", x.swap(1), STATE);
         Due.is("31: nobody behind the one", x.swap(10), STATE);
@@ -938,7 +904,7 @@ public final class PromisesTest {
     }
 
     private static void p32() {
-        BehindTheMask x = hall(4, 0, 0, 111);
+        BehindTheMask x = Scene.hall(4, 0, 0, 111);
         Due.is("32: nobody", x.bet(0, 0), STATE);
         x.behind(0, 0);
         x.behind(1, 6);
@@ -959,7 +925,7 @@ public final class PromisesTest {
     }
 
     private static void p33() {
-        BehindTheMask x = hall(2, 0, 0, 111);
+        BehindTheMask x = Scene.hall(2, 0, 0, 111);
         x.behind(0, 0);
         x.behind(1, 1);
         x.dance(0);
@@ -977,7 +943,7 @@ public final class PromisesTest {
     }
 
     private static void p34() {
-        BehindTheMask x = hall(1, 0, 0);
+        BehindTheMask x = Scene.hall(1, 0, 0);
         Due.is("34: new", x.image(), 0);
         x.behind(0, 0);
         x.dance(0);
@@ -987,7 +953,7 @@ public final class PromisesTest {
     }
 
     private static void p35() {
-        BehindTheMask x = hall(1, 0, 123, 0);
+        BehindTheMask x = Scene.hall(1, 0, 123, 0);
         Due.is("35: none", x.back(), STATE);
         x.behind(0, 0);
         x.dance(0);
@@ -1021,7 +987,7 @@ public final class PromisesTest {
     }
 
     private static void p36() {
-        BehindTheMask x = hall(1, 0, 0);
+        BehindTheMask x = Scene.hall(1, 0, 0);
         Due.is("36: none", x.undo(), STATE);
         x.mend(0, 3, 2);
         Due.is("36: the same is none", x.undo(), STATE);
@@ -1049,7 +1015,7 @@ public final class PromisesTest {
     }
 
     private static void p37() {
-        BehindTheMask x = hall(1, 0, 0);
+        BehindTheMask x = Scene.hall(1, 0, 0);
         Due.is("37: none", x.redo(), STATE);
         x.mend(0, 3, 9);
         x.mend(0, 3, 8);
@@ -1084,7 +1050,7 @@ public final class PromisesTest {
 
     /** BODY n is of KIND n; all four ACTS with 5. */
     private static void p39() {
-        BehindTheMask x = kinds();
+        BehindTheMask x = Scene.kinds();
         int[][] due = {
             {5, 10, 5, 9}, {9, 18, 4, 18}, {7, -14, 7, -17}, {8, -18, 18, -24},
             {12, 24, 1, 22}, {10, -22, -7, -26}, {22, 44, 3, 37}, {23, 51, 2, 45}};
@@ -1106,7 +1072,7 @@ public final class PromisesTest {
     }
 
     private static void p40() {
-        BehindTheMask x = kinds();
+        BehindTheMask x = Scene.kinds();
         Due.is("40: none yet", x.trace(0), BAD);
         x.act(0, 3, 5);
         trace(x, "40: a sign tells", 2, 10, 1, 11);
@@ -1127,7 +1093,7 @@ public final class PromisesTest {
     }
 
     private static void p41() {
-        BehindTheMask x = kinds();
+        BehindTheMask x = Scene.kinds();
         Due.is("41: a body", x.keep(5, 7), 1);
         Due.is("41: it is there", x.taken(5, 0), 7);
         Due.is("41: nothing", x.keep(5, -1), 1);
@@ -1142,7 +1108,7 @@ public final class PromisesTest {
     }
 
     private static void p42() {
-        BehindTheMask x = kinds();
+        BehindTheMask x = Scene.kinds();
         x.keep(0, 1);
         for (int sort = 0; sort < 5; sort++) {
             Due.is("42: row", x.row(0, sort, 60), 1);
@@ -1162,7 +1128,7 @@ public final class PromisesTest {
     }
 
     private static void p43() {
-        BehindTheMask x = kinds();
+        BehindTheMask x = Scene.kinds();
         long v = 0x1234567887654321L;
         long[] due = {0x21, 0x4321, 0x87654321, v, 1};
         for (int sort = 0; sort < 5; sort++) {
@@ -1186,7 +1152,7 @@ public final class PromisesTest {
     }
 
     private static void p44() {
-        BehindTheMask x = kinds();
+        BehindTheMask x = Scene.kinds();
         x.row(0, 3, 2);
         x.put(0, 1, -77);
         Due.is("44: element", x.element(0, 1), -77);
@@ -1204,8 +1170,8 @@ public final class PromisesTest {
     }
 
     private static void p45() {
-        BehindTheMask x = kinds();
-        bytes(x, 0, 1, 2, 3, 4, 5);
+        BehindTheMask x = Scene.kinds();
+        Scene.bytes(x, 0, 1, 2, 3, 4, 5);
         Due.is("45: the same, on", x.shift(0, 0, 0, 1, 4), 4);
         int[] due = {1, 1, 2, 3, 4};
         for (int i = 0; i < 5; i++) {
@@ -1238,7 +1204,7 @@ public final class PromisesTest {
     }
 
     private static void p46() {
-        BehindTheMask x = kinds();
+        BehindTheMask x = Scene.kinds();
         int[] under = {0b1, 0b11, 0b101, 0b1101, 0b10011, 0b101101, 0b1000001, 0b11000001};
         for (int kind = 0; kind < 8; kind++) {
             x.keep(0, kind);
@@ -1256,7 +1222,7 @@ public final class PromisesTest {
     }
 
     private static void p47() {
-        BehindTheMask x = hall(2, 0, 0, 1, 2);
+        BehindTheMask x = Scene.hall(2, 0, 0, 1, 2);
         x.feed('1');
         x.mend(0, 10, 4);
         x.mend(0, 10, 5);
